@@ -13,7 +13,7 @@ public final class PartSitters {
     private static final int TAPE_SIZE = 160, DAY_LIMIT = 1000, MOST_EARNED = 999, WEEK = 7;
     private static final int PLAIN = 0, TWIN = 1, SHADOW = 2, STRANGER = 3;
     private static final int NULL_FAULT = 1, INDEX_FAULT = 2, CAST_FAULT = 3, SIZE_FAULT = 4;
-    /** Far more than the 15625 PICTURES that there can be. */
+    /** Far more than the 15625 PICTURES that there can be, and than the steps through them. */
     private static final int MANY = 1000000;
 
     private final Reader reader = new Reader();
@@ -23,7 +23,7 @@ public final class PartSitters {
     private final Street[] images = new Street[IMAGES];
     private final boolean[] kept = new boolean[IMAGES];
     private final Seen seen = new Seen();
-    private final Walk walk = new Walk();
+    private final Walk walk = new Walk(street, seen);
     private final Sheet[] sheets = new Sheet[SHEETS];
     private final int[] had = new int[MOST_SITTERS];
     private final int[] same = new int[MOST_PARTS * MOST_PARTS];
@@ -236,19 +236,15 @@ public final class PartSitters {
     // ---- what fits
 
     public int many() {
-        walk.begin(street);
-        int found = 0;
-        while (found < MANY && walk.advance()) {
-            found++;
-        }
-        return found;
+        walk.begin(false);
+        return walk.howMany();
     }
 
     public int mend(int what) {
         if (!within(what, 0, 1)) {
             return BAD;
         }
-        walk.begin(street);
+        walk.begin(false);
         walk.priceChanges();
         return walk.cheapest(what);
     }
@@ -257,7 +253,7 @@ public final class PartSitters {
         if (!within(m, 1, MOST_PARTS) || !within(what, 0, 1)) {
             return BAD;
         }
-        walk.begin(street);
+        walk.begin(false);
         walk.priceSittings();
         walk.most = m;
         return walk.cheapest(what);
@@ -367,25 +363,21 @@ public final class PartSitters {
         if (!within(what, 0, 1)) {
             return BAD;
         }
-        walk.begin(street);
-        walk.heed(seen);
-        if (what == 1) {
-            return walk.advance() ? walk.number() : NONE;
+        walk.begin(true);
+        if (what == 0) {
+            return walk.howMany();
         }
-        int found = 0;
-        while (found < MANY && walk.advance()) {
-            found++;
-        }
-        return found;
+        return walk.advance() ? walk.number() : NONE;
     }
 
     public int ask(int what) {
         if (!within(what, 0, 1)) {
             return BAD;
         }
-        int fewest = countPossible();
+        walk.begin(true);
+        int now = walk.countSame(same);
+        int fewest = now;
         int answer = NONE;
-        int now = fewest;
         for (int p = 0; p < street.parts; p++) {
             for (int q = p + 1; q < street.parts; q++) {
                 int byOne = same[p * MOST_PARTS + q];
@@ -556,19 +548,6 @@ public final class PartSitters {
             alike = alike && had[s] == had[0];
         }
         return alike;
-    }
-
-    /** How many PICTURES are POSSIBLE; of each two PARTS: in how many of them they are by one. */
-    private int countPossible() {
-        Arrays.fill(same, 0);
-        walk.begin(street);
-        walk.heed(seen);
-        int found = 0;
-        while (found < MANY && walk.advance()) {
-            walk.markSame(same);
-            found++;
-        }
-        return found;
     }
 
     /**
@@ -869,10 +848,16 @@ public final class PartSitters {
      * stand beside those before is left out at once.
      */
     static final class Walk {
-        static final int ENDLESS = Integer.MAX_VALUE;
-        Street street = new Street();
-        Seen seen = new Seen();
-        int heeded, most, bound, place;
+        /** Above what any PICTURE costs. */
+        static final int ENDLESS = 1000;
+        final Street street;
+        final Seen seen;
+        /** How many of SEEN count. */
+        int heeded;
+        /** Of how many PARTS nobody has more; what all costs stay below. */
+        int most, bound;
+        /** The PART whose figure is set next; how many PARTS, from the first on, have theirs set. */
+        int place, depth;
         final int[] likes = new int[MOST_SITTERS];
         final int[] figures = new int[MOST_PARTS];
         final int[] allowed = new int[MOST_PARTS];
@@ -880,12 +865,17 @@ public final class PartSitters {
         final int[] spent = new int[MOST_PARTS + 1];
         final int[] prices = new int[MOST_PARTS * MOST_SITTERS];
 
-        /** Starts ahead of the first PICTURE: nothing is SEEN, all costs nothing. */
-        void begin(Street shown) {
-            street = shown;
-            heeded = 0;
+        Walk(Street street, Seen seen) {
+            this.street = street;
+            this.seen = seen;
+        }
+
+        /** Starts ahead of the first PICTURE; all costs nothing. */
+        void begin(boolean asSeen) {
+            heeded = asSeen ? seen.size : 0;
             most = MOST_PARTS;
             bound = ENDLESS;
+            depth = street.parts;
             Arrays.fill(prices, 0);
             for (int s = 0; s < street.sitters; s++) {
                 likes[s] = 0;
@@ -896,12 +886,6 @@ public final class PartSitters {
                 }
             }
             open(0);
-        }
-
-        /** From here on what is SEEN counts, too; asked of behind begin(). */
-        void heed(Seen all) {
-            seen = all;
-            heeded = all.size;
         }
 
         /** Each PART that would show another one costs 1. */
@@ -933,7 +917,43 @@ public final class PartSitters {
             return first == NONE || what == 1 ? first : bound;
         }
 
-        /** Goes on to the next PICTURE; false: there is none left. */
+        /** How many PICTURES there are: the last PART's figures are counted, not gone through. */
+        int howMany() {
+            depth = street.parts - 1;
+            int found = 0;
+            for (int turn = 0; turn < MANY && advance(); turn++) {
+                found += Integer.bitCount(allowedAt(depth));
+            }
+            return found;
+        }
+
+        /** How many PICTURES there are; of each two PARTS: in how many of them they are by one. */
+        int countSame(int[] same) {
+            Arrays.fill(same, 0);
+            depth = street.parts - 1;
+            int found = 0;
+            for (int turn = 0; turn < MANY && advance(); turn++) {
+                int lastOnes = allowedAt(depth);
+                found += Integer.bitCount(lastOnes);
+                markSame(same, lastOnes);
+            }
+            return found;
+        }
+
+        /** Counts the PICTURES that differ in the last PART alone, which is by one of these (bits). */
+        void markSame(int[] same, int lastOnes) {
+            int each = Integer.bitCount(lastOnes);
+            for (int p = 0; p < depth; p++) {
+                for (int q = p + 1; q < depth; q++) {
+                    if (figures[p] == figures[q]) {
+                        same[p * MOST_PARTS + q] += each;
+                    }
+                }
+                same[p * MOST_PARTS + depth] += lastOnes >> figures[p] & 1;
+            }
+        }
+
+        /** Goes on to the next PICTURE, as far as depth goes; false: there is none left. */
         boolean advance() {
             for (int turn = 0; turn < MANY && place >= 0; turn++) {
                 int s = followingFigure();
@@ -942,7 +962,7 @@ public final class PartSitters {
                 } else {
                     figures[place] = s;
                     spent[place + 1] = spent[place] + prices[place * MOST_SITTERS + s];
-                    if (place == street.parts - 1) {
+                    if (place == depth - 1) {
                         return true;
                     }
                     open(place + 1);
@@ -1005,17 +1025,6 @@ public final class PartSitters {
                 sum = sum * street.sitters + figures[p];
             }
             return sum;
-        }
-
-        /** Counts each two PARTS that are by one SITTER in the PICTURE at hand. */
-        void markSame(int[] counts) {
-            for (int p = 0; p < street.parts; p++) {
-                for (int q = p + 1; q < street.parts; q++) {
-                    if (figures[p] == figures[q]) {
-                        counts[p * MOST_PARTS + q]++;
-                    }
-                }
-            }
         }
     }
 

@@ -156,6 +156,9 @@ public final class DaysTest {
         // What was earned before does not count: 6 days of 1 and 2, then 3 and 0, 2 and 1 thrice.
         x.go(1);
         due.is("from here on", x.even(), 10);
+        // Sixty days are the last that count.
+        due.is("behind 60", due.told("parts 5;plain 0 0 2 6;plain 0 0 0 5;worth 1 7;").even(), 60);
+        due.is("behind 61", due.told("parts 6;plain 0 0 6;plain 0 0 3;worth 0 9;paint 1 1;").even(), -4);
         // 999 does not stop it: what is had in these days counts.
         x = due.told("parts 2;plain 0 0;plain 0 0;worth 0 9;worth 1 9;paint 0 0;paint 1 0;");
         for (int i = 0; i < 2; i++) {

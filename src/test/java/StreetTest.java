@@ -169,6 +169,11 @@ public final class StreetTest {
         }
         due.is("nothing is changed", State.of(x).equals(before) ? 1 : 0, 1);
         due.is("all worths", x.count(6), 5);
+        PartSitters y = due.told("parts 6;plain 0 0;plain 0 0;plain 0 0;plain 0 0;plain 3 0;");
+        due.is("the 6th part", y.worth(5, 8), 1);
+        due.is("the 6th part", y.part(5, 0), 8);
+        due.is("the 5th sitter", y.alter(4, 1, 2), 3);
+        due.is("the 5th sitter", y.sitter(4, 1), 2);
     }
 
     private static void like() {

@@ -98,6 +98,12 @@ public final class TextTest {
         due.is("torn stays", x.torn(), 1);
         due.is("image gone", x.back(0), -2);
         due.is("kept anew", x.keep(0), 0);
+        // A text of no lines tells all, too.
+        x.see(0, 1, true);
+        due.is("no lines", x.text(), 0);
+        due.is("nobody", x.rule(1), 0);
+        due.is("nothing is seen", x.count(0), 0);
+        due.is("no image", x.count(1), 0);
     }
 
     private static void tokens() {
