@@ -133,6 +133,12 @@ public final class TextTest {
         PartSitters x = new PartSitters();
         read(x, "part 2;", -10, 2);
         read(x, "partss 2;", -10, 2);
+        // One letter is not that of a line's NAME: the first, one between, the last.
+        for (String name : new String[] {"parts", "worth", "plain", "twin", "shadow", "stranger", "bond", "forger", "paint"}) {
+            for (int i = 0; i < name.length(); i++) {
+                read(x, "plain 0 0;" + name.substring(0, i) + "z" + name.substring(i + 1) + " 0 0;", -20, 2);
+            }
+        }
         read(x, "pa$ts 2;", -10, 2);
         read(x, "plaintwin 0 0;", -10, 2);
         read(x, " plain plain 0 0;", -17, 2);
