@@ -49,10 +49,13 @@ public final class BoundaryTapeTest {
         b.of(where, words, "far from 0 to 127", "feed MIN = BAD, feed MAX = BAD, feed 256 = BAD, feed -128 = BAD, count 2 = 0");
         b.of(where, words, "behind, not ahead", "tape 'parts', feed 32 = 6, feed 50 = 7, feed 59 = 8, text = 1, rule 0 = 2");
         String full = "BAD; FULL: more than 160.";
-        b.of(where, full, "the 160th byte and the 161st", "159 times feed 32, feed 32 = 160, feed 32 = FULL, count 2 = 160, text = 0");
+        b.of(where, full, "the 160th byte and the 161st",
+                "159 times feed 32, feed 32 = 160, feed 32 = FULL, count 2 = 160, text = 0");
         b.of(where, full, "the 161st is not told", "tape 'plain 0 0;', 150 times feed 32, feed 36 = FULL, text = 1, fault = 0");
-        b.of(where, full, "BAD ahead of FULL", "160 times feed 32, feed -1 = BAD, feed 128 = BAD, feed 0 = FULL, feed 127 = FULL");
-        b.of(where, full, "room again", "160 times feed 32, end 159 = 160, feed 59 = 160, feed 59 = FULL, text = -169, fault = 2");
+        b.of(where, full, "BAD ahead of FULL",
+                "160 times feed 32, feed -1 = BAD, feed 128 = BAD, feed 0 = FULL, feed 127 = FULL");
+        b.of(where, full, "room again",
+                "160 times feed 32, end 159 = 160, feed 59 = 160, feed 59 = FULL, text = -169, fault = 2");
     }
 
     private static void end(Boundaries b) {
@@ -96,8 +99,10 @@ public final class BoundaryTapeTest {
             "parts 2;worth 0 9;bond 0 1;forger;plain 0 0;paint 2 0;' = -64, fault = 6"}) {
             b.of(where, "that which was told stays", refused.substring(refused.length() - 9),
                     "tell 'parts 3;plain 1 2 0 1;twin 2 3 4;bond 0 1;forger 1;worth 1 4;paint 2 1;' = 7, go 2 = 2, keep 1 = 0",
-                    "see 0 1 no = 1, sheet 0 1 3 = 1, lay 0 1 1 = 1", "tell '" + refused,
-                    "rule 0 = 3, rule 1 = 2, rule 2 = 1, rule 3 = 1, rule 4 = 2, part 1 0 = 4, count 0 = 1, count 1 = 1, count 3 = 3");
+                    "see 0 1 no = 1, sheet 0 1 3 = 1, lay 0 1 1 = 1",
+                    "tell '" + refused,
+                    "rule 0 = 3, rule 1 = 2, rule 2 = 1, rule 3 = 1, rule 4 = 2, part 1 0 = 4, count 0 = 1, count 1 = 1",
+                    "count 3 = 3");
         }
     }
 
@@ -106,8 +111,10 @@ public final class BoundaryTapeTest {
         String words = "The FAULT of the latest text(); 0.";
         b.of(where, words, "0 ahead of all texts", "fault = 0, feed 36 = 1, fault = 0");
         b.of(where, words, "0 behind one that is taken", "tell 'parts 2;' = 1, fault = 0, text = 0, fault = 0");
-        b.of(where, words, "it stays until the next", "tell '$' = -10, fault = 1, feed 112 = 1, fault = 1, end 0 = 1, go 1 = 0, fault = 1");
-        b.of(where, words, "the latest, not the first", "tell '$' = -10, fault = 1, tell ';' = -10, fault = 2, text = 0, fault = 0");
+        b.of(where, words, "it stays until the next",
+                "tell '$' = -10, fault = 1, feed 112 = 1, fault = 1, end 0 = 1, go 1 = 0, fault = 1");
+        b.of(where, words, "the latest, not the first",
+                "tell '$' = -10, fault = 1, tell ';' = -10, fault = 2, text = 0, fault = 0");
         b.of(where, words, "another call's refusal is none", "feed 128 = BAD, paint 0 0 = BAD, read 0 0 0 1 = 0, fault = 0");
     }
 
@@ -137,7 +144,8 @@ public final class BoundaryTapeTest {
         b.of(where, one, "two NAMES with a blank are two", "tell 'parts 2;plain plain 0 0;' = -24, fault = 2");
         b.of(where, one, "two NUMBERS without a blank are one", "tell 'plain 00;' = -18, fault = 2");
         b.of(where, one, "two NUMBERS with a blank are two", "tell 'plain 0 0;' = 1, fault = 0");
-        b.of(where, one, "1 2 are two days, 12 is none", "tell 'plain 0 0 1 2;' = 1, sitter 0 3 = 6, tell 'plain 0 0 12;' = -20, fault = 3");
+        b.of(where, one, "1 2 are two days, 12 is none",
+                "tell 'plain 0 0 1 2;' = 1, sitter 0 3 = 6, tell 'plain 0 0 12;' = -20, fault = 3");
         b.of(where, one, "none between a NAME and a NUMBER, a NUMBER and the sign, the sign and a NAME",
                 "tell 'bond0 1;forger;forger4 ;' = -34, fault = 6, tell 'twin5 9;forger0;' = 2");
         b.of(where, one, "none between a NUMBER and a NAME", "tell 'parts 2parts;' = -17, fault = 2");
@@ -150,9 +158,11 @@ public final class BoundaryTapeTest {
         b.of(where, words, "a NAME ends ahead of a NUMBER", "tell 'parts2;' = 1");
         b.of(where, words, "a NAME of 160 letters", "160 times feed 97, text = -10, fault = 2");
         b.of(where, words, "a NUMBER of three figures is not one of two and one of one", "tell 'plain 001;' = -16, fault = 1");
-        b.of(where, NUMBERS, "one", "tell 'parts 2;' = 1, rule 0 = 2, tell 'worth 0 9;' = 1, part 0 0 = 9, tell 'worth 0 0;' = 1, part 0 0 = 0");
+        b.of(where, NUMBERS, "one",
+                "tell 'parts 2;' = 1, rule 0 = 2, tell 'worth 0 9;' = 1, part 0 0 = 9, tell 'worth 0 0;' = 1, part 0 0 = 0");
         b.of(where, NUMBERS, "two", "tell 'parts 02;' = 1, rule 0 = 2, tell 'worth 00 09;' = 1, part 0 0 = 9");
-        b.of(where, NUMBERS, "two, the first of which counts ten times", "tell 'worth 0 10;' = -18, fault = 3, tell 'worth 0 99;' = -18, fault = 3");
+        b.of(where, NUMBERS, "two, the first of which counts ten times",
+                "tell 'worth 0 10;' = -18, fault = 3, tell 'worth 0 99;' = -18, fault = 3");
         b.of(where, NUMBERS, "three", "tell 'parts 002;' = -16, fault = 1, tell 'worth 0 000;' = -18, fault = 1");
         b.of(where, NUMBERS, "150", "tape 'worth 0 ', 151 times feed 48, feed 59 = 160, text = -18, fault = 1");
     }
@@ -165,7 +175,8 @@ public final class BoundaryTapeTest {
         b.of(where, "NAMES (a .. z)", "no capitals",
                 "feed 65 = 1, text = -10, fault = 1, feed 90 = 1, text = -10, fault = 1, tell 'Parts 2;' = -10, fault = 1");
         b.of(where, NUMBERS, "0 and 9, and what lies beside them",
-                "tell 'worth 0 0;' = 1, tell 'worth 0 9;' = 1, tell 'worth 0 /;' = -18, fault = 1, tell 'worth 0 :;' = -18, fault = 1");
+                "tell 'worth 0 0;' = 1, tell 'worth 0 9;' = 1, tell 'worth 0 /;' = -18, fault = 1, tell 'worth 0 :;' = -18",
+                "fault = 1");
         b.of(where, "the sign ;", "it alone, not what lies beside it",
                 "tell 'parts 2;' = 1, tell 'parts 2:' = -17, fault = 1, tell 'parts 2<' = -17, fault = 1");
         b.of(where, "(every other byte is no TOKEN)", "each byte alone", eachByte("", "", 0, 0));

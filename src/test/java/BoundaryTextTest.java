@@ -46,27 +46,33 @@ public final class BoundaryTextTest {
                 "tell 'twin;' = -14, fault = 2, tell 'twin 0;' = -16, fault = 2, tell 'twin 0 0;' = 1",
                 "tell 'twin 0 0 0 1 2 3 4 5 6;' = 1, tell 'twin 0 0 0 1 2 3 4 5 6 0;' = -33, fault = 4");
         b.of(WHERE, words, "bond: two NUMBERS, not one, not three",
-                "tell 'bond;' = -14, fault = 2, tell 'bond 0;' = -16, fault = 2, tell 'bond 0 1 2;' = -19, fault = 2, tell 'bond 0 1;' = 1");
+                "tell 'bond;' = -14, fault = 2, tell 'bond 0;' = -16, fault = 2, tell 'bond 0 1 2;' = -19, fault = 2",
+                "tell 'bond 0 1;' = 1");
         b.of(WHERE, words, "forger: no NUMBER, five at most",
-                "tell 'forger;' = 1, forger 0 = 0, tell 'plain0 0;plain0 0;plain0 0;plain0 0;plain0 0;forger 0 1 2 3 4;' = 6, forger 0 = 31",
+                "tell 'forger;' = 1, forger 0 = 0, tell 'plain0 0;plain0 0;plain0 0;plain0 0;plain0 0;forger 0 1 2 3 4;' = 6",
+                "forger 0 = 31",
                 "tell 'forger 0 1 2 3 4 0;' = -27, fault = 4");
         b.of(WHERE, words, "paint: two NUMBERS, not one, not three",
                 "tell 'paint;' = -15, fault = 2, tell 'paint 0;' = -17, fault = 2, tell 'paint 0 0 0;' = -20, fault = 2");
         b.of(WHERE, "K: plain | twin | shadow | stranger", "each of them",
-                "tell 'plain 0 0;twin 0 0;shadow 0 0;stranger 0 0;' = 4, sitter 0 0 = 0, sitter 1 0 = 1, sitter 2 0 = 2, sitter 3 0 = 3");
+                "tell 'plain 0 0;twin 0 0;shadow 0 0;stranger 0 0;' = 4, sitter 0 0 = 0, sitter 1 0 = 1, sitter 2 0 = 2",
+                "sitter 3 0 = 3");
         b.of(WHERE, "PARTS 0 on (2 to 6; 4 at first)", "in a text 1 and 2, 6 and 7",
                 "tell 'parts 1;' = -16, fault = 3, tell 'parts 2;' = 1, rule 0 = 2, tell 'parts 6;' = 1, rule 0 = 6",
                 "tell 'parts 7;' = -16, fault = 3, tell 'parts 0;' = -16, fault = 3, rule 0 = 6");
-        b.of(WHERE, "PARTS 0 on (2 to 6; 4 at first)", "no line that tells them", "tell 'parts 6;' = 1, tell 'plain 0 0;' = 1, rule 0 = 4");
+        b.of(WHERE, "PARTS 0 on (2 to 6; 4 at first)", "no line that tells them",
+                "tell 'parts 6;' = 1, tell 'plain 0 0;' = 1, rule 0 = 4");
     }
 
     private static void worthLine(Boundaries b) {
         String words = "worth: a PART (0 to 5), its WORTH.";
-        b.of(WHERE, words, "PARTS 0 and 5", "tell 'parts 6;worth 0 2;worth 5 3;' = 3, part 0 0 = 2, part 5 0 = 3, part 4 0 = 1");
+        b.of(WHERE, words, "PARTS 0 and 5",
+                "tell 'parts 6;worth 0 2;worth 5 3;' = 3, part 0 0 = 2, part 5 0 = 3, part 4 0 = 1");
         b.of(WHERE, words, "PART 6", "tell 'parts 6;worth 6 2;' = -24, fault = 3");
         b.of(WHERE, words, "a WORTH of 0 and of 9", "tell 'worth 0 0;worth 1 9;' = 2, part 0 0 = 0, part 1 0 = 9");
         b.of(WHERE, words, "a WORTH of 10", "tell 'worth 0 10;' = -18, fault = 3");
-        b.of(WHERE, words, "each of six PARTS", "tell 'parts 6;worth 0 0;worth 1 2;worth 2 4;worth 3 6;worth 4 8;worth 5 9;' = 7, count 6 = 29");
+        b.of(WHERE, words, "each of six PARTS",
+                "tell 'parts 6;worth 0 0;worth 1 2;worth 2 4;worth 3 6;worth 4 8;worth 5 9;' = 7, count 6 = 29");
     }
 
     private static void sitterLine(Boundaries b) {
@@ -79,16 +85,19 @@ public final class BoundaryTextTest {
         b.of(WHERE, words, "FREE on days 0 and 6", "tell 'plain 1 1 0;plain 1 1 6;' = 2, sitter 0 3 = 1, sitter 1 3 = 64");
         b.of(WHERE, words, "FREE on all seven, told backwards", "tell 'plain 1 1 6 5 4 3 2 1 0;' = 1, sitter 0 3 = 127");
         b.of(WHERE, words, "day 7", "tell 'plain 1 1 7;' = -20, fault = 3, tell 'plain 1 1 0 6 7;' = -24, fault = 3");
-        b.of(WHERE, words, "days of one are not those of another", "tell 'plain 1 1 0 1;twin 1 1;' = 2, sitter 0 3 = 3, sitter 1 3 = 0");
+        b.of(WHERE, words, "days of one are not those of another",
+                "tell 'plain 1 1 0 1;twin 1 1;' = 2, sitter 0 3 = 3, sitter 1 3 = 0");
     }
 
     private static void bondLine(Boundaries b) {
         String words = "bond: two PARTS more (0 to 5).";
-        b.of(WHERE, words, "PARTS 0 and 5, both ways", "tell 'parts 6;bond 0 5;bond 5 0;' = 3, bond 0 0 = 0, bond 0 1 = 5, bond 1 0 = 5, bond 1 1 = 0");
+        b.of(WHERE, words, "PARTS 0 and 5, both ways",
+                "tell 'parts 6;bond 0 5;bond 5 0;' = 3, bond 0 0 = 0, bond 0 1 = 5, bond 1 0 = 5, bond 1 1 = 0");
         b.of(WHERE, words, "PART 6 as the first", "tell 'parts 6;bond 6 0;' = -23, fault = 3");
         b.of(WHERE, words, "PART 6 as the second", "tell 'parts 6;bond 0 6;' = -25, fault = 3");
         b.of(WHERE, words, "the same two once more", "tell 'bond 0 1;bond 0 1;' = 2, rule 2 = 2, bond 1 0 = 0, bond 1 1 = 1");
-        b.of(WHERE, "BONDS (5 at most): pairs of PARTS.", "five of them", "tell 'bond 0 1;bond 1 2;bond 2 3;bond 3 0;bond 0 2;' = 5, rule 2 = 5",
+        b.of(WHERE, "BONDS (5 at most): pairs of PARTS.", "five of them",
+                "tell 'bond 0 1;bond 1 2;bond 2 3;bond 3 0;bond 0 2;' = 5, rule 2 = 5",
                 "bond 4 0 = 0, bond 4 1 = 2, bond 5 0 = BAD");
     }
 
@@ -96,9 +105,11 @@ public final class BoundaryTextTest {
         String words = "forger: a FORGER more: SITTERS (0 to 4).";
         String five = "plain0 0;plain0 0;plain0 0;plain0 0;plain0 0;";
         b.of(WHERE, words, "nobody", "tell 'forger;' = 1, forger 0 = 0");
-        b.of(WHERE, words, "SITTERS 0 and 4", "tell '" + five + "forger 0;forger 4;forger 4 0;' = 8, forger 0 = 1, forger 1 = 16, forger 2 = 17");
+        b.of(WHERE, words, "SITTERS 0 and 4",
+                "tell '" + five + "forger 0;forger 4;forger 4 0;' = 8, forger 0 = 1, forger 1 = 16, forger 2 = 17");
         b.of(WHERE, words, "SITTER 5", "tell '" + five + "forger 5;' = -62, fault = 3, tell 'forger 5;' = -17, fault = 3");
-        b.of(WHERE, words, "whom one did not know is not told of the next one", "tell 'plain 0 0;forger 0;forger;' = 3, forger 0 = 1, forger 1 = 0");
+        b.of(WHERE, words, "whom one did not know is not told of the next one",
+                "tell 'plain 0 0;forger 0;forger;' = 3, forger 0 = 1, forger 1 = 0");
         b.of(WHERE, "FORGERS (4 at most): SITTERS whom one did not know (bits).", "four of them",
                 "tell 'forger;forger;forger;plain 0 0;forger 0;' = 5, rule 3 = 4, forger 3 = 1, forger 4 = BAD");
     }
@@ -106,11 +117,13 @@ public final class BoundaryTextTest {
     private static void paintLine(Boundaries b) {
         String words = "paint: a PART, a SITTER: a LAYER more (as by paint(), free or not).";
         b.of(WHERE, words, "PARTS 0 and 5, SITTERS 0 and 4",
-                "tell 'parts6;plain0 0;plain0 0;plain0 0;plain0 0;plain0 0;paint 0 4;paint 5 0;' = 8, part 0 2 = 4, part 5 2 = 0");
+                "tell 'parts6;plain0 0;plain0 0;plain0 0;plain0 0;plain0 0;paint 0 4;paint 5 0;' = 8, part 0 2 = 4",
+                "part 5 2 = 0");
         b.of(WHERE, words, "PART 6", "tell 'parts 6;plain 0 0;paint 6 0;' = -34, fault = 3");
         b.of(WHERE, words, "SITTER 5", "tell 'plain0 0;plain0 0;plain0 0;plain0 0;plain0 0;paint 0 5;' = -63, fault = 3");
         b.of(WHERE, words, "who is FREE on no day", "tell 'plain 0 0;paint 3 0;' = 2, part 3 2 = 0");
-        b.of(WHERE, words, "he is not THE LAST, no DAY goes, nobody earns", "tell 'plain 0 0;paint 3 0;' = 2, rule 5 = NONE, rule 4 = 0, sitter 0 4 = 0");
+        b.of(WHERE, words, "he is not THE LAST, no DAY goes, nobody earns",
+                "tell 'plain 0 0;paint 3 0;' = 2, rule 5 = NONE, rule 4 = 0, sitter 0 4 = 0");
         b.of(WHERE, words, "four LAYERS, in their order",
                 "tell 'plain 0 0;plain 0 0;paint 3 1;paint 3 0;paint 3 0;paint 3 1;' = 6, part 3 1 = 4",
                 "layer 3 0 = 1, layer 3 1 = 0, layer 3 2 = 0, layer 3 3 = 1, layer 3 4 = BAD");
@@ -199,7 +212,8 @@ public final class BoundaryTextTest {
             if (text.charAt(n - 1) == ';') {
                 lines++;
                 int answer = lines;
-                b.of(WHERE, words, "the end behind \"" + text.substring(0, n) + "\"", "tell '" + text.substring(0, n) + "' = " + answer + ", fault = 0");
+                b.of(WHERE, words, "the end behind \"" + text.substring(0, n) + "\"",
+                        "tell '" + text.substring(0, n) + "' = " + answer + ", fault = 0");
             } else if (!inName) {
                 refused(b, words, "the end behind \"" + text.substring(0, n) + "\"", text.substring(0, n), n, 2);
             }
@@ -240,11 +254,15 @@ public final class BoundaryTextTest {
         refused(b, words, "a SITTER of a forger told already", "forger 0 0;", 9, 4);
         refused(b, words, "SITTER 4 of a forger told already", "forger 4 1 4;", 11, 4);
         b.of(WHERE, words, "parts once behind a text that told them", "tell 'parts 2;' = 1, tell 'parts 3;' = 1, rule 0 = 3");
-        b.of(WHERE, words, "parts once behind a text that was refused", "tell 'parts 2;$' = -18, fault = 1, tell 'parts 3;' = 1, rule 0 = 3");
-        b.of(WHERE, words, "worth of one PART behind a text that told it", "tell 'worth 2 5;' = 1, tell 'worth 2 6;' = 1, part 2 0 = 6");
+        b.of(WHERE, words, "parts once behind a text that was refused",
+                "tell 'parts 2;$' = -18, fault = 1, tell 'parts 3;' = 1, rule 0 = 3");
+        b.of(WHERE, words, "worth of one PART behind a text that told it",
+                "tell 'worth 2 5;' = 1, tell 'worth 2 6;' = 1, part 2 0 = 6");
         b.of(WHERE, words, "worth of another PART", "tell 'worth 2 5;worth 3 5;' = 2, fault = 0");
-        b.of(WHERE, words, "one day of two SITTERS, one SITTER of two FORGERS", "tell 'plain 0 0 3;plain 0 0 3;forger 1;forger 1;' = 4, fault = 0");
-        b.of(WHERE, words, "a bond, a paint told already", "tell 'plain 0 0;bond 0 1;bond 0 1;paint 0 0;paint 0 0;' = 5, fault = 0");
+        b.of(WHERE, words, "one day of two SITTERS, one SITTER of two FORGERS",
+                "tell 'plain 0 0 3;plain 0 0 3;forger 1;forger 1;' = 4, fault = 0");
+        b.of(WHERE, words, "a bond, a paint told already",
+                "tell 'plain 0 0;bond 0 1;bond 0 1;paint 0 0;paint 0 0;' = 5, fault = 0");
     }
 
     private static void tooMany(Boundaries b) {
@@ -259,28 +277,39 @@ public final class BoundaryTextTest {
         b.of(WHERE, words, "four forgers", "tell 'forger;forger;forger;forger;' = 4, fault = 0, rule 3 = 4");
         refused(b, words, "the 5th forger", "forger;forger;forger;forger;forger;", 28, 5);
         String layers = "plain 0 0;paint 1 0;paint 1 0;paint 1 0;paint 1 0;";
-        b.of(WHERE, words, "four LAYERS, and one of another PART", "tell '" + layers + "paint 0 0;' = 6, fault = 0, part 1 1 = 4");
+        b.of(WHERE, words, "four LAYERS, and one of another PART",
+                "tell '" + layers + "paint 0 0;' = 6, fault = 0, part 1 1 = 4");
         refused(b, words, "the 5th LAYER", layers + "paint 1 0;", 56, 5);
         refused(b, words, "the 5th LAYER of PART 5", "parts 6;plain 0 0;paint 5 0;paint 5 0;paint 5 0;paint 5 0;paint 05 0;", 64, 5);
-        b.of(WHERE, words, "as many once more in the next text", "tell '" + layers + "' = 5, tell '" + layers + "' = 5, part 1 1 = 4, rule 1 = 1");
+        b.of(WHERE, words, "as many once more in the next text",
+                "tell '" + layers + "' = 5, tell '" + layers + "' = 5, part 1 1 = 4, rule 1 = 1");
     }
 
     private static void notThere(Boundaries b) {
         String words = "Behind all (the length): 6 a PART, a SITTER that there is not.";
-        b.of(WHERE, words, "the last PART and the first that is not, of worth", "tell 'worth 3 1;' = 1, fault = 0, tell 'worth 4 1;' = -20, fault = 6",
-                "tell 'parts 2;worth 1 1;' = 2, tell 'parts 2;worth 2 1;' = -28, fault = 6, tell 'worth 5 1;parts 6;' = 2, fault = 0");
-        b.of(WHERE, words, "the last PART and the first that is not, of bond", "tell 'bond 3 0;bond 0 3;' = 2, tell 'bond 4 0;' = -19, fault = 6",
+        b.of(WHERE, words, "the last PART and the first that is not, of worth",
+                "tell 'worth 3 1;' = 1, fault = 0, tell 'worth 4 1;' = -20, fault = 6",
+                "tell 'parts 2;worth 1 1;' = 2, tell 'parts 2;worth 2 1;' = -28, fault = 6, tell 'worth 5 1;parts 6;' = 2",
+                "fault = 0");
+        b.of(WHERE, words, "the last PART and the first that is not, of bond",
+                "tell 'bond 3 0;bond 0 3;' = 2, tell 'bond 4 0;' = -19, fault = 6",
                 "tell 'bond 0 4;' = -19, fault = 6, tell 'parts 5;bond 0 4;' = 2, tell 'parts 2;bond 1 2;' = -27, fault = 6");
-        b.of(WHERE, words, "the last PART and the first that is not, of paint", "tell 'plain 0 0;paint 3 0;' = 2, tell 'plain 0 0;paint 4 0;' = -30, fault = 6",
+        b.of(WHERE, words, "the last PART and the first that is not, of paint",
+                "tell 'plain 0 0;paint 3 0;' = 2, tell 'plain 0 0;paint 4 0;' = -30, fault = 6",
                 "tell 'plain 0 0;paint 4 0;parts 5;' = 3, part 4 2 = 0");
-        b.of(WHERE, words, "the last SITTER and the first that is not, of forger", "tell 'plain 0 0;forger 0;' = 2, tell 'plain 0 0;forger 1;' = -29, fault = 6",
+        b.of(WHERE, words, "the last SITTER and the first that is not, of forger",
+                "tell 'plain 0 0;forger 0;' = 2, tell 'plain 0 0;forger 1;' = -29, fault = 6",
                 "tell 'forger 0;' = -19, fault = 6, tell 'forger 1 0;plain 0 0;plain 0 0;' = 3, forger 0 = 3");
-        b.of(WHERE, words, "the last SITTER and the first that is not, of paint", "tell 'plain 0 0;paint 0 0;' = 2, tell 'plain 0 0;paint 0 1;' = -30, fault = 6",
+        b.of(WHERE, words, "the last SITTER and the first that is not, of paint",
+                "tell 'plain 0 0;paint 0 0;' = 2, tell 'plain 0 0;paint 0 1;' = -30, fault = 6",
                 "tell 'paint 0 0;' = -20, fault = 6, tell 'paint 0 1;plain 0 0;plain 0 0;' = 3, part 0 2 = 1");
-        b.of(WHERE, words, "one of several, not the last one told", "tell 'plain 0 0;worth 4 1;worth 0 1;' = -40, fault = 6",
-                "tell 'plain 0 0;forger 1 0;paint 0 0;' = -41, fault = 6, tell 'plain 0 0;paint 0 4;paint 0 0;' = -40, fault = 6");
+        b.of(WHERE, words, "one of several, not the last one told",
+                "tell 'plain 0 0;worth 4 1;worth 0 1;' = -40, fault = 6",
+                "tell 'plain 0 0;forger 1 0;paint 0 0;' = -41, fault = 6, tell 'plain 0 0;paint 0 4;paint 0 0;' = -40",
+                "fault = 6");
         b.of(WHERE, words, "the length is that of all THE TAPE, blanks too", "tell 'worth 5 1;   ' = -23, fault = 6");
-        b.of(WHERE, words, "PARTS and SITTERS that there were ahead of the text are none", "tell 'parts 6;plain 0 0;' = 2, tell 'worth 5 1;' = -20, fault = 6",
+        b.of(WHERE, words, "PARTS and SITTERS that there were ahead of the text are none",
+                "tell 'parts 6;plain 0 0;' = 2, tell 'worth 5 1;' = -20, fault = 6",
                 "tell 'paint 0 0;' = -20, fault = 6, rule 0 = 6, rule 1 = 1");
     }
 
@@ -327,27 +356,50 @@ public final class BoundaryTextTest {
                 + " IMAGES are gone; SHEETS stay.";
         String before = "tell 'parts 3;worth 2 7;shadow 3 4 0 1 2 3;twin 1 1 5;bond 0 2;forger 1;paint 1 1;' = 7, go 5 = 4, keep 0 = 0, keep 1 = 0";
         String more = "see 0 1 yes = 1, see 1 2 no = 2, sheet 0 0 7 = 1, sheet 3 2 2 = 1, lay 3 0 1 = 1, read 2 0 0 1 = 0, torn = 1";
-        b.of(WHERE, all, "PARTS and WORTHS that no line tells", before, more, "tell 'plain 0 0;' = 1, rule 0 = 4, part 2 0 = 1, count 6 = 4");
-        b.of(WHERE, all, "LAYERS that no line tells", before, more, "tell 'parts 3;plain 0 0;plain 0 0;' = 3, count 4 = 0, rule 6 = 7, part 1 1 = 0");
+        b.of(WHERE, all, "PARTS and WORTHS that no line tells",
+                before,
+                more,
+                "tell 'plain 0 0;' = 1, rule 0 = 4, part 2 0 = 1, count 6 = 4");
+        b.of(WHERE, all, "LAYERS that no line tells",
+                before,
+                more,
+                "tell 'parts 3;plain 0 0;plain 0 0;' = 3, count 4 = 0, rule 6 = 7, part 1 1 = 0");
         b.of(WHERE, all, "SITTERS: those of before are gone", before, more, "tell 'stranger 2 3;' = 1, rule 1 = 1",
                 "sitter 0 0 = 3, sitter 0 1 = 2, sitter 0 2 = 3, sitter 0 3 = 0, sitter 0 4 = 0, sitter 1 0 = BAD");
         b.of(WHERE, all, "EARNED is 0, DAY 0, nobody THE LAST", before, more, "tell 'parts 3;shadow 3 4 0;twin 1 1 5;' = 3",
                 "sitter 0 4 = 0, sitter 1 4 = 0, rule 4 = 0, rule 5 = NONE, go 1 = 1, rule 5 = 0");
-        b.of(WHERE, all, "BONDS and FORGERS that no line tells", before, more, "tell 'parts 3;' = 1, rule 2 = 0, rule 3 = 0, bond 0 0 = BAD, forger 0 = BAD");
-        b.of(WHERE, all, "a text without a line", before, more,
+        b.of(WHERE, all, "BONDS and FORGERS that no line tells",
+                before,
+                more,
+                "tell 'parts 3;' = 1, rule 2 = 0, rule 3 = 0, bond 0 0 = BAD, forger 0 = BAD");
+        b.of(WHERE, all, "a text without a line",
+                before,
+                more,
                 "text = 0, rule 0 = 4, rule 1 = 0, rule 2 = 0, rule 3 = 0, rule 4 = 0, rule 5 = NONE, rule 6 = 15, count 6 = 4");
-        b.of(WHERE, all, "nothing is SEEN", before, more, "text = 0, count 0 = 0, forget 1 = BAD, forget 0 = 0, see 0 1 yes = 1");
-        b.of(WHERE, all, "IMAGES are gone", before, more, "text = 0, count 1 = 0, back 0 = STATE, back 1 = STATE, keep 0 = 0, keep 1 = 0");
-        b.of(WHERE, all, "SHEETS stay, and what torn() tells", before, more, "tell 'plain 0 0;plain 0 0;' = 2, count 3 = 7, torn = 1",
+        b.of(WHERE, all, "nothing is SEEN",
+                before,
+                more,
+                "text = 0, count 0 = 0, forget 1 = BAD, forget 0 = 0, see 0 1 yes = 1");
+        b.of(WHERE, all, "IMAGES are gone",
+                before,
+                more,
+                "text = 0, count 1 = 0, back 0 = STATE, back 1 = STATE, keep 0 = 0, keep 1 = 0");
+        b.of(WHERE, all, "SHEETS stay, and what torn() tells",
+                before,
+                more,
+                "tell 'plain 0 0;plain 0 0;' = 2, count 3 = 7, torn = 1",
                 "read 3 2 0 1 = 1, part 1 2 = 0, lay 0 6 1 = 1, lay 0 7 1 = -12");
-        b.of(WHERE, "EARNED of each (0 at first).", "of one more than there were", "tell 'plain 0 0 0;paint 0 0;' = 2, go 3 = 1, sitter 0 4 = 3",
+        b.of(WHERE, "EARNED of each (0 at first).", "of one more than there were",
+                "tell 'plain 0 0 0;paint 0 0;' = 2, go 3 = 1, sitter 0 4 = 3",
                 "tell 'plain 0 0;plain 0 0;' = 2, sitter 0 4 = 0, sitter 1 4 = 0");
-        b.of(WHERE, "DAY (0 at first); THE LAST who sat by turns (NONE at first).", "behind a text", "tell 'plain 0 0 0;' = 1, rule 4 = 0, rule 5 = NONE",
+        b.of(WHERE, "DAY (0 at first); THE LAST who sat by turns (NONE at first).", "behind a text",
+                "tell 'plain 0 0 0;' = 1, rule 4 = 0, rule 5 = NONE",
                 "go 8 = 2, rule 4 = 8, rule 5 = 0, tell 'plain 0 0 0;' = 1, rule 4 = 0, rule 5 = NONE");
         List<String> many = new ArrayList<>();
         many.add("tell 'plain 0 0;twin 0 0;bond 0 1;forger;bond 1 2;forger 1;shadow 0 0;bond 2 3;' = 8");
         many.add("sitter 0 0 = 0, sitter 1 0 = 1, sitter 2 0 = 2, bond 0 1 = 1, bond 1 1 = 2, bond 2 1 = 3, forger 0 = 0, forger 1 = 2");
-        b.of(WHERE, "What is numbered has its numbers from 0 on, as it comes, where nothing else is told.", "SITTERS, BONDS, FORGERS",
+        b.of(WHERE, "What is numbered has its numbers from 0 on, as it comes, where nothing else is told.",
+                "SITTERS, BONDS, FORGERS",
                 many.toArray(new String[0]));
     }
 }
