@@ -4,19 +4,56 @@ import java.util.List;
 
 /**
  * What the document says, once more and as literally as can be: all pictures are written out, all orders
- * of sitters gone through, all ways to die. It takes what there is from an object's public face.
+ * of sitters gone through, all ways to die. It takes what there is from an object's public face, or it is
+ * what Model has told it.
  */
 final class Plain {
-    final int parts;
-    final int sitters;
-    final int[] worth;
+    int parts;
+    int sitters;
+    int[] worth;
     final List<List<Integer>> layers = new ArrayList<>();
-    final int[][] sitter;
-    final int[][] bonds;
-    final int[] forgers;
+    int[][] sitter;
+    int[][] bonds;
+    int[] forgers;
     final List<int[]> seen;
     int day;
     int last;
+
+    /** So many bare PARTS of WORTH 1, nobody. */
+    Plain(int parts, List<int[]> seen) {
+        this.seen = seen;
+        this.parts = parts;
+        sitters = 0;
+        day = 0;
+        last = -4;
+        worth = new int[parts];
+        Arrays.fill(worth, 1);
+        for (int p = 0; p < parts; p++) {
+            layers.add(new ArrayList<>());
+        }
+        sitter = new int[0][];
+        bonds = new int[0][];
+        forgers = new int[0];
+    }
+
+    /** As another one is; what is SEEN is the same list. */
+    Plain(Plain other) {
+        seen = other.seen;
+        parts = other.parts;
+        sitters = other.sitters;
+        day = other.day;
+        last = other.last;
+        worth = other.worth.clone();
+        for (List<Integer> all : other.layers) {
+            layers.add(new ArrayList<>(all));
+        }
+        sitter = new int[sitters][];
+        for (int s = 0; s < sitters; s++) {
+            sitter[s] = other.sitter[s].clone();
+        }
+        bonds = other.bonds;
+        forgers = other.forgers;
+    }
 
     Plain(PartSitters x, List<int[]> seen) {
         this.seen = seen;
