@@ -1,12 +1,20 @@
 import java.io.IOException;
+import java.lang.reflect.Method;
+import java.lang.reflect.Modifier;
 import java.nio.file.Files;
 import java.nio.file.Path;
 import java.util.Map;
+import java.util.Set;
 import java.util.TreeMap;
+import java.util.TreeSet;
+import java.util.regex.Matcher;
+import java.util.regex.Pattern;
+import java.util.stream.Collectors;
+import java.util.stream.Stream;
 
 /**
  * The boundary cases against ../shared/DOC.md: the words of each stand there where it says, and no words of
- * 'Terms' and of the promises are left without a case.
+ * 'Terms' and of the promises are left without a case. And the class's methods are those of the document's face.
  */
 public final class DocTest {
     private static final Due due = new Due("DocTest");
@@ -27,6 +35,7 @@ public final class DocTest {
         BoundarySharesTest.cases(all);
         BoundarySeenTest.cases(all);
         BoundarySheetsTest.cases(all);
+        theFace(Files.readString(DOC));
         Map<String, String> sections = sections(Files.readString(DOC));
         due.is("promises", sections.keySet().stream().filter(name -> name.startsWith("Promise ")).count(), 41);
         for (Boundaries.Case one : all.all()) {
@@ -40,6 +49,30 @@ public final class DocTest {
             }
         }
         due.close();
+    }
+
+    /** Each method of 'The public face' and of the promises is the class's, and the class has no other one. */
+    private static void theFace(String doc) {
+        Set<String> face = new TreeSet<>();
+        Matcher told = Pattern.compile("public (int|long) (\\w+\\(.*\\));").matcher(doc);
+        while (told.find()) {
+            face.add(told.group(1) + " " + told.group(2).replaceAll(" \\w+(?=[,)])", "").replace(" ", ""));
+        }
+        Set<String> promised = new TreeSet<>();
+        told = Pattern.compile("`(int|long) (\\w+\\(.*\\))`: ").matcher(doc);
+        while (told.find()) {
+            promised.add(told.group(1) + " " + told.group(2).replaceAll(" \\w+(?=[,)])", "").replace(" ", ""));
+        }
+        Set<String> has = new TreeSet<>();
+        for (Method method : PartSitters.class.getDeclaredMethods()) {
+            if (Modifier.isPublic(method.getModifiers())) {
+                String types = Stream.of(method.getParameterTypes()).map(Class::getName).collect(Collectors.joining(","));
+                has.add(method.getReturnType() + " " + method.getName() + "(" + types + ")");
+            }
+        }
+        due.is("the class has " + has + ", the face says " + face, has.equals(face) ? 1 : 0, 1);
+        due.is("the promises say " + promised, has.equals(promised) ? 1 : 0, 1);
+        due.is("methods", has.size(), 40);
     }
 
     /** The document's sections by name ('Terms', 'Promise 17'), blanks and line ends alike, without signatures. */

@@ -40,7 +40,6 @@ public final class FaceTest {
         for (Class<?> inside : face.getDeclaredClasses()) {
             due.is(inside + " is static", Modifier.isStatic(inside.getModifiers()) ? 1 : 0, 1);
             due.is(inside + " is not public", inside.getModifiers() & (Modifier.PUBLIC | Modifier.PROTECTED), 0);
-            due.is(inside + " keeps to its fields", inside.getDeclaredFields().length <= 30 ? 1 : 0, 1);
         }
         due.close();
     }

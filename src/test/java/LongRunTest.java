@@ -10,6 +10,7 @@ public final class LongRunTest {
     private static final Due due = new Due("LongRunTest");
     private static final int[] EDGES = {Integer.MIN_VALUE, -129, -41, -5, -2, -1, 0, 1, 2, 3, 4, 5, 6, 7, 9, 10, 11, 20, 21,
         39, 40, 41, 60, 61, 127, 128, 160, 161, 256, 999, 65536, Integer.MAX_VALUE - 1, Integer.MAX_VALUE};
+    private static final String SIGNS = "0123456789; a$";
     private static final String[] KINDS = {"plain", "twin", "shadow", "stranger"};
     private static final String[] SCRAPS = {"parts 6;", "parts 2;", "worth 1 9;", "bond 0 1;", "forger 0;", "paint 0 0;",
         "twin 3 4;", "plain", ";", "$", "7", "123", " ", "stranger0 0", "paint 5", "bond 3 3;", "forger;", "judge", "x"};
@@ -73,12 +74,12 @@ public final class LongRunTest {
     // ---- texts
 
     private void tell() {
-        switch (by.nextInt(8)) {
-            case 0: call("end 0"); break;
-            case 1: fill(); break;
-            default: break;
+        if (by.nextInt(8) == 0) {
+            fill();
+        } else if (by.nextInt(2) == 0) {
+            call("end 0");
         }
-        feed(by.nextInt(6) == 0 ? scraps() : text());
+        feed(by.nextInt(6) == 0 ? scraps() : by.nextInt(4) == 0 ? spoilt(text()) : text());
         if (by.nextInt(6) == 0) {
             call("end " + by.nextInt(60));
             feed(by.nextInt(2) == 0 ? ";" : text());
@@ -111,9 +112,19 @@ public final class LongRunTest {
         return all.toString();
     }
 
+    /** A byte of it is another one, or is gone; or a line of it comes once more. */
+    private String spoilt(String text) {
+        int at = by.nextInt(text.length());
+        switch (by.nextInt(3)) {
+            case 0: return text.substring(0, at) + SIGNS.charAt(by.nextInt(SIGNS.length())) + text.substring(at + 1);
+            case 1: return text.substring(0, at) + text.substring(at + 1);
+            default: return text + text.substring(text.lastIndexOf(';', at) + 1);
+        }
+    }
+
     private String text() {
-        int parts = 2 + by.nextInt(4);
-        int sitters = by.nextInt(12) == 0 ? by.nextInt(7) : 1 + by.nextInt(4);
+        int parts = 2 + by.nextInt(by.nextInt(6) == 0 ? 6 : 4);
+        int sitters = by.nextInt(8) == 0 ? by.nextInt(7) : 1 + by.nextInt(4);
         List<String> lines = new ArrayList<>();
         if (parts != 4 || by.nextBoolean()) {
             lines.add("parts " + parts);
@@ -122,14 +133,14 @@ public final class LongRunTest {
             String days = by.nextInt(3) == 0 ? " 0 2 4 6" : " " + by.nextInt(7);
             lines.add(KINDS[by.nextInt(4)] + by.nextInt(6) + " " + by.nextInt(10) + days);
         }
-        for (int n = by.nextInt(4); n > 0; n--) {
+        for (int n = by.nextInt(by.nextInt(4) == 0 ? 7 : 4); n > 0; n--) {
             int p = by.nextInt(parts);
             lines.add("bond" + p + " " + (p + 1 + by.nextInt(parts - 1)) % parts);
         }
         if (by.nextInt(2) == 0) {
             lines.add("worth" + by.nextInt(parts) + " " + by.nextInt(10));
         }
-        for (int n = by.nextInt(3); n > 0; n--) {
+        for (int n = by.nextInt(by.nextInt(4) == 0 ? 9 : 3); n > 0; n--) {
             int s = by.nextInt(8) == 0 ? by.nextInt(5) : by.nextInt(Math.max(1, sitters));
             lines.add((by.nextInt(2) == 0 ? "forger" : "paint" + by.nextInt(parts) + " ") + s);
         }
@@ -146,12 +157,12 @@ public final class LongRunTest {
             case "end": call("end " + (by.nextInt(9) == 0 ? any() : by.nextInt(6))); break;
             case "see": call("see " + part() + " " + part() + (by.nextInt(4) == 0 ? " yes" : " no")); break;
             case "alter": alter(); break;
-            case "cheap": call("cheap " + (small(6) + 1) + " " + small(2)); break;
+            case "cheap": call("cheap " + (by.nextInt(20) == 0 ? any() : 1 + small(6)) + " " + small(2)); break;
             case "drift": call("drift " + by.nextInt() + " " + small(60) + " " + small(2)); break;
             case "ahead": call("ahead " + sitter() + " " + small(61) + " " + small(2)); break;
             case "alive": case "mean": call(name + " " + small(11) + " " + small(2)); break;
             case "value": call("value " + small(1 << model.sitters())); break;
-            case "go": call("go " + small(61)); break;
+            case "go": call("go " + (by.nextInt(6) == 0 ? 999 + by.nextInt(2) - model.day() : small(61))); break;
             case "worth": call("worth " + part() + " " + small(10)); break;
             case "sheet": call("sheet " + sheetNumber() + " " + lane() + " " + small(41)); break;
             case "lay": call("lay " + sheetNumber() + " " + small(by.nextInt(3) == 0 ? 40 : 9) + " " + value()); break;
@@ -175,9 +186,14 @@ public final class LongRunTest {
         return EDGES[by.nextInt(EDGES.length)];
     }
 
-    /** 0 up to behind what is told; at times any number. */
-    private int small(int most) {
-        return by.nextInt(25) == 0 ? any() : by.nextInt(most);
+    /** One of so many, from 0 on; at times the first behind them, or any number. */
+    private int small(int many) {
+        switch (by.nextInt(50)) {
+            case 0: return any();
+            case 1: return -1;
+            case 2: return many;
+            default: return by.nextInt(many);
+        }
     }
 
     private int part() {

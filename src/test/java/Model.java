@@ -53,6 +53,10 @@ final class Model {
         return street.sitters;
     }
 
+    int day() {
+        return street.day;
+    }
+
     int bonds() {
         return street.bonds.length;
     }
